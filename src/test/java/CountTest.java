@@ -80,10 +80,23 @@ public final class CountTest {
         wayIs(448, 7, 0, "000000");
         wayIs(256, 1, 3, "00000000");
         wayIs(2, 2, 0, "");
+        wayIs(511, 511, 9, "");
+        wayIs(510, 255, 9, "0");
         wayIs(1, 1, 0, "");
         noWay(7, 448, 3);
         noWay(3, 5, 2);
         noWay(1, 2, 0);
+        oneObjectManyWays();
+    }
+
+    private static void oneObjectManyWays() {
+        ThrowRows x = new ThrowRows();
+        for (int time = 0; time < 3; time++) {
+            due.is("19 again", x.way(7, 448, 9, -1), 3);
+            due.is("19 again", x.way(7, 22, 5, 2), 5);
+            due.is("19 again", x.way(7, 448, 3, -1), -9);
+            due.is("19 again", x.way(448, 7, 0, 5), 0);
+        }
     }
 
     private static void wayIs(int from, int to, int top, String row) {

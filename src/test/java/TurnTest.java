@@ -25,6 +25,10 @@ public final class TurnTest {
         rowIs("11", x, "6631");
         due.is("11", x.swap(0, 3), 1);
         rowIs("11", x, "4633");
+        due.is("11 i above 0", x.swap(1, 3), 1);
+        rowIs("11 i above 0", x, "4534");
+        due.is("11 and back", x.swap(1, 3), 1);
+        rowIs("11 and back", x, "4633");
         due.is("11 alike", x.swap(1, 1), -1);
         due.is("11 turned around", x.swap(3, 1), -1);
         due.is("11 i -1", x.swap(-1, 1), -1);
@@ -157,6 +161,12 @@ public final class TurnTest {
         due.is("17 backward", x.like(0), 0);
         Due.text(x, "0143");
         due.is("17 the same throws in another order", x.like(0), 0);
+        Due.text(x, "3934");
+        x.keep(0);
+        Due.text(x, "4393");
+        due.is("17 both not in their greatest form", x.like(0), 1);
+        Due.text(x, "4383");
+        due.is("17 unlike in the greatest throw alone", x.like(0), 0);
         Due.text(x, "33");
         x.keep(1);
         Due.text(x, "3");
