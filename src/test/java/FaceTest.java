@@ -62,6 +62,17 @@ public final class FaceTest {
         }
     }
 
+    private static void membersInside(Class<?> inside) {
+        for (Method method : inside.getDeclaredMethods()) {
+            due.holds(method + " is not public", !Modifier.isPublic(method.getModifiers()));
+            due.holds(method + " has a name of its own", !FACE.contains(" " + method.getName() + " "));
+        }
+        for (Field field : inside.getDeclaredFields()) {
+            due.holds(field + " is final, if static",
+                    !Modifier.isStatic(field.getModifiers()) || Modifier.isFinal(field.getModifiers()));
+        }
+    }
+
     private static void constructor() {
         Constructor<?>[] constructors = ThrowRows.class.getDeclaredConstructors();
         due.is("constructors", constructors.length, 1);
@@ -70,6 +81,7 @@ public final class FaceTest {
         for (Class<?> inside : ThrowRows.class.getDeclaredClasses()) {
             due.holds(inside + " is static", Modifier.isStatic(inside.getModifiers()));
             due.holds(inside + " is not public", !Modifier.isPublic(inside.getModifiers()));
+            membersInside(inside);
         }
     }
 }
